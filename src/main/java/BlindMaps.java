@@ -47,7 +47,7 @@ public final class BlindMaps {
     private final Atlas kept = new Atlas();
     private int images;
     private final Sheet[] sheets = new Sheet[SHEETS];
-    private final Reader reader = new Reader();
+    private final TapeReader reader = new TapeReader();
     private final Overlay overlay = new Overlay();
     private final Errand errand = new Errand();
     private final Voices voices = new Voices();
@@ -706,7 +706,10 @@ public final class BlindMaps {
         }
     }
 
-    /** A TEXT as it is worked out: 0 and above is a NUMBER, below 0 a NAME's or a sign's byte, negated, behind what it takes. */
+    /**
+     * A TEXT as it is worked out, each sign behind what it takes: a part of 0 or above is a NUMBER, one below 0
+     * the byte of a NAME or of a sign, negated.
+     */
     static final class Text {
         final int[] code = new int[TAPE];
         /** 0 if there is no TEXT; a TEXT has one part at least. */
@@ -783,7 +786,7 @@ public final class BlindMaps {
     }
 
     /** Reads THE TAPE as a TEXT; where it stops at a FAULT, at is the FAULT. */
-    static final class Reader {
+    static final class TapeReader {
         private static final int NO_LEVEL = -1;
         private static final int COMPARING = 2;
         private static final int UNIT = 5;

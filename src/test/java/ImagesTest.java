@@ -3,8 +3,10 @@ public final class ImagesTest {
     public static void main(String[] args) {
         Script.run("30, 31: what an IMAGE keeps", """
             way(0, 1, 1, 12) = 1
+            volume(0, 17) = 0
             volume(1, 65) = 0
             swap(1, 0, 5) = 5
+            swap(3, 4, 5) = 5
             lacks(2, 0, 1) = 1
             feed("l*2") = 3
             text(0) = 1
@@ -18,7 +20,10 @@ public final class ImagesTest {
             blast(0, 1) = 12
             way(2, 0, 3, 5) = 1
             way(3, 3, 3, 6) = 1
+            volume(0, 0) = 17
             volume(1, 20) = 65
+            swap(3, 4, 4) = 5
+            swap(3, 4, 5) = 4
             swap(1, 1, 2) = 2
             lacks(2, 2, 0) = 1
             feed("3") = 2
@@ -40,9 +45,14 @@ public final class ImagesTest {
             volumeIs(1, 4) = 5
             volumeIs(1, 5) = 1
             volumeIs(2, 3) = 1
+            says(2, 0, 1, 0) = NONE
+            volumeIs(0, 0) = 1
+            volumeIs(0, 1) = 7
+            volumeIs(3, 8) = 5
+            volumeIs(3, 9) = 4
             says(1, 5, 1, 1) = 24
             worth(1) = 48
-            worth(0) = 24
+            worth(0) = 40
             check(1) = 1
             text(0) = 1                  # 7, which was on THE TAPE
             says(1, 5, 1, 1) = 7

@@ -124,6 +124,10 @@ public final class IslandTest {
             wayIs(1, 3, 0) = 0
             wayIs(1, 3, 2) = 3
             wayIs(1, 3, 4) = 45
+            volume(0, 19) = 0
+            wayIs(0, 1, 3) = 37
+            wayIs(0, 1, 4) = 57
+            volume(0, 0) = 19
             lacks(1, 1, 3) = 1
             wayIs(0, 1, 2) = 2
             wayIs(0, 1, 4) = 37

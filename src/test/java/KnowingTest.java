@@ -57,6 +57,17 @@ public final class KnowingTest {
             boy(5, 0) = 3
             boy(0, 2) = 221
             """);
+        Script.run("20: boy, no more than three WAYS", """
+            volume(1, 11) = 0
+            way(0, 1, 1, 5) = 1
+            way(1, 1, 2, 5) = 1
+            way(2, 1, 3, 5) = 1
+            way(3, 1, 4, 30) = 1
+            boy(0, 0) = 1
+            boy(0, 2) = 2
+            boy(1, 0) = 2
+            boy(1, 2) = 222
+            """);
         Script.run("20: boy, nothing is one thing", """
             way(0, 3, 0, 50) = 1
             lacks(0, 0, 3) = 1
@@ -67,6 +78,12 @@ public final class KnowingTest {
             boy(0, 0) = 1
             boy(0, 1) = 1
             boy(0, 2) = 2                # east leads to itself, too
+            """);
+        Script.run("20: boy, nothing is unlike any STEPS", """
+            way(0, 0, 1, 1) = 1
+            volume(1, 30) = 0
+            boy(0, 0) = 2
+            boy(0, 1) = 1
             """);
         Script.run("20: boy, a silent first WAY", """
             volume(1, 31) = 0            # LIED: hides 11 and more
@@ -131,6 +148,12 @@ public final class KnowingTest {
             longer(1, 2, 1) = 1
             longer(0, 1, 0) = 10
             longer(0, 1, 1) = 11
+            way(0, 0, 4, 10) = 1
+            longer(1, 2, 0) = 11         # and this way, said by both, is the only one
+            longer(1, 2, 1) = 10
+            volume(3, 19) = 0
+            longer(3, 1, 0) = 19         # 57 and 19, by 33 and 11
+            longer(3, 1, 1) = 11
             longer(0, 1, 2) = BEYOND
             longer(0, 1, -1) = BEYOND
             longer(-1, 1, 0) = BEYOND
@@ -148,6 +171,12 @@ public final class KnowingTest {
             leftOut(0) = NONE
             lacks(0, 2, 1) = 1
             leftOut(0) = 8
+            way(0, 3, 0, 49) = 1
+            lacks(2, 0, 1) = 1
+            leftOut(2) = 6               # east of 0, to itself
+            lacks(2, 2, 1) = 1
+            leftOut(2) = 6               # of two as long the least
+            blast(0, 1) = 49
             lacks(0, 3, 1) = 1
             leftOut(0) = 9               # the greatest LENGTH
             way(0, 2, 1, 50) = 1

@@ -91,6 +91,32 @@ public final class OverTest {
             fits(0, 1, 11) = 0
             fits(0, 1, 12) = 2880
             """);
+        Script.run("17: best, 24 against it however it is laid", """
+            way(0, 1, 1, 5) = 1
+            way(1, 1, 2, 5) = 1
+            way(2, 1, 3, 5) = 1
+            way(3, 1, 4, 5) = 1
+            way(4, 1, 5, 5) = 1
+            way(5, 1, 0, 5) = 1
+            way(0, 0, 2, 5) = 1
+            way(1, 0, 3, 5) = 1
+            way(2, 0, 4, 5) = 1
+            way(3, 0, 5, 5) = 1
+            way(4, 0, 0, 5) = 1
+            way(5, 0, 1, 5) = 1
+            swap(2, 0, 5) = 5
+            best(0, 2, 3) = 0            # of the six ways round the ring the least
+            best(0, 2, 4) = 5
+            best(0, 2, 5) = 1
+            volume(1, 39) = 0
+            best(0, 1, 0) = 24
+            best(0, 1, 1) = 0
+            best(0, 1, 2) = 0
+            best(0, 1, 3) = 0
+            best(0, 1, 8) = 5
+            fits(0, 1, 23) = 0
+            fits(0, 1, 24) = 2880
+            """);
         Script.run("17: best, wrong", """
             best(-1, 0, 0) = BEYOND
             best(4, 0, 0) = BEYOND
@@ -175,6 +201,9 @@ public final class OverTest {
             over(0, 1, 0, 2, 0) = STATE
             put(2, 0, 256) = 1
             over(0, 1, 0, 2, 0) = 0
+            sheet(1, 8, 6) = 1
+            move(2, 0, 1, 0, 6) = 6
+            over(0, 1, 0, 1, 0) = 0      # six are enough
             """);
     }
 }

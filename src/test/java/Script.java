@@ -184,7 +184,7 @@ final class Script {
         }
     }
 
-    private static Method methodOf(String name) {
+    static Method methodOf(String name) {
         for (Method method : BlindMaps.class.getMethods()) {
             if (method.getName().equals(name)) {
                 return method;

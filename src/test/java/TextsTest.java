@@ -72,6 +72,21 @@ public final class TextsTest {
             text(0) = -10                # none on THE TAPE
             says(3, 0, 0, 1) = 35
             worth(0) = 2
+            feed("!l") = 2
+            text(0) = 1
+            says(3, 0, 0, 1) = 1
+            feed("v*10+m") = 6
+            text(0) = 1
+            feed("l") = 1
+            text(0) = 1
+            says(3, 0, 0, 1) = 40        # nothing is left of the ones ahead
+            feed("!l") = 2
+            text(0) = 1
+            feed("l") = 1
+            text(0) = 1
+            says(3, 0, 0, 1) = 40
+            feed("v*10+m") = 6
+            text(0) = 1
             feed("s*10+v") = 6
             text(1) = 1
             worth(0) = 60                # 3 * 10, from both ends
@@ -167,7 +182,12 @@ public final class TextsTest {
         value("(3>3)*50+7", 7);
         value("(1|0&0)*50+7", 57);
         value("(2&4)*50+7", 57);
+        value("(1&1)*50+7", 57);
+        value("(0&1)*50+7", 7);
+        value("(1&0)*50+7", 7);
         value("(2|4)*50+7", 57);
+        value("(0|1)*50+7", 57);
+        value("(1|0)*50+7", 57);
         value("(0|0|0)*50+7", 7);
         value("(1&1&0)*50+7", 7);
         value("(3&2<1)*50+7", 7);

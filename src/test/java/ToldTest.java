@@ -46,6 +46,10 @@ public final class ToldTest {
             tell(5) = 4
             check(0) = 3
             count(3) = 0
+            tell(0) = 1
+            tell(12) = 2
+            tell(0) = 3
+            check(0) = 0                 # what waited ahead doesn't any more
             tell(12) = 1
             check(0) = 1
             volume(1, 15) = 0

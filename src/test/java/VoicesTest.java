@@ -101,6 +101,9 @@ public final class VoicesTest {
             body(0) = 12
             body(1) = 60
             voice(1, 0, 4) = 5
+            voice(1, 3, 23) = 4          # NIGHT has no BODY for it, nor has TURNED
+            body(0) = 13
+            count(4) = 1
             volume(3, 68) = 0
             voice(3, 0, 100) = 9
             body(0) = 70
