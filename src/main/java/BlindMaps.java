@@ -1266,28 +1266,20 @@ public final class BlindMaps {
         int answer;
         final int[] trace = new int[TRACED];
         int traced;
-        private final int[] begun = new int[TRACED];
-        private int begins;
         private boolean parted;
         private int k;
         private int m;
         private int kind;
 
-        /** Whether it came to an end; one that PARTED leaves answer and THE TRACE as they were. */
+        /** Whether it came to an end; one that PARTED has no answer, but THE TRACE up to the BODY that did. */
         boolean hear(int number, Volume volume, int voice, int x) {
             k = number;
             m = volume.m;
             kind = volume.kind;
-            begins = 0;
+            traced = 0;
             parted = false;
-            int heard = speak(kind, voice, x, 0);
-            if (parted) {
-                return false;
-            }
-            answer = heard;
-            traced = begins;
-            System.arraycopy(begun, 0, trace, 0, TRACED);
-            return true;
+            answer = speak(kind, voice, x, 0);
+            return !parted;
         }
 
         /** The voice as the KIND named, or the next one above that has a BODY for it, speaks it. */
@@ -1342,9 +1334,9 @@ public final class BlindMaps {
         }
 
         private void begin(int body) {
-            if (begins < TRACED) {
-                begun[begins] = body;
-                begins++;
+            if (traced < TRACED) {
+                trace[traced] = body;
+                traced++;
             }
         }
 

@@ -85,6 +85,18 @@ public final class ImagesTest {
             told(1) = 3
             image() = 2
             """);
+        Script.run("30, 31: numbers that wait", """
+            way(0, 1, 1, 12) = 1
+            tell(0) = 1
+            tell(12) = 2
+            image() = 1
+            check(0) = 0
+            tell(5) = 1
+            tell(6) = 2
+            restore() = 1
+            count(3) = 2
+            check(0) = 0
+            """);
         Script.run("31: restore, wrong", """
             way(0, 1, 1, 12) = 1
             restore() = NONE

@@ -161,6 +161,13 @@ public final class KnowingTest {
             longer(0, -1, 0) = BEYOND
             longer(0, 4, 0) = BEYOND
             """);
+        Script.run("22: a WAY from a PLACE to itself", """
+            volume(1, 11) = 0
+            way(0, 0, 0, 10) = 1
+            way(1, 1, 2, 5) = 1
+            longer(1, 0, 0) = 16         # 11 and 5, by 10 and 5
+            longer(1, 0, 1) = 15
+            """);
     }
 
     private static void leftOut() {

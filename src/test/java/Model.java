@@ -770,10 +770,14 @@ final class Model {
         within(v, 0, 3);
         within(voice, 0, 3);
         Volume volume = volumeAt(v);
-        int answer = voice == 0 ? volume.reads(x) : voice == 1 ? volume.paces(x)
-            : voice == 2 ? volume.sells(x) : volume.parts(x);
+        // Ahead of the voice, since it is THE TRACE of one that is PARTED, too.
         trace = volume.trace;
-        return answer;
+        switch (voice) {
+            case 0: return volume.reads(x);
+            case 1: return volume.paces(x);
+            case 2: return volume.sells(x);
+            default: return volume.parts(x);
+        }
     }
 
     private long sheet(int sheet, int width, int n) {

@@ -16,7 +16,7 @@ public final class RandomRunsTest {
         "worth 10 4", "longer 12 4 4 2", "leftOut 12 4", "voice 16 4 4 100", "body 12 7", "sheet 8 4 1 25",
         "put 50 4 8 6", "move 12 4 8 4 8 9", "ways 6 4", "image 3", "restore 3", "tell 12 30", "check 5 4",
         "count 8 6", "told 8 7", "feed 4 100 9", "feedText 14 2", "tellSaid 6 4", "row 5 4", "roads 4 4",
-        "route 5 4"};
+        "route 5 4", "parting 4 4"};
 
     private final Random random;
     private final BlindMaps x = new BlindMaps();
@@ -66,6 +66,7 @@ public final class RandomRunsTest {
             case "row": putRow(random.nextInt(4)); break;
             case "roads": putRoads(random.nextInt(4)); break;
             case "route": putRoute(random.nextInt(4)); break;
+            case "parting": part(random.nextInt(4)); break;
             default: call(words[0], arguments(words));
         }
     }
@@ -174,6 +175,17 @@ public final class RandomRunsTest {
         }
         for (int i = 0; i < 6; i++) {
             call("walk", random.nextInt(4), random.nextInt(6), sheet, random.nextInt(4));
+        }
+    }
+
+    /** A VOICE that is mostly PARTED, and the whole of THE TRACE. */
+    private void part(int volume) {
+        boolean parts = random.nextInt(4) != 0;
+        call("volume", volume, 10 * random.nextInt(7) + (parts ? volume : random.nextInt(10)));
+        call("voice", volume, parts ? 3 : random.nextInt(4), random.nextInt(100));
+        call("count", 4);
+        for (int i = 0; i < 7; i++) {
+            call("body", i);
         }
     }
 

@@ -6,7 +6,8 @@ import java.util.Map;
 /**
  * Runs calls on a new object, a line each: name(numbers) = what is due; # begins a remark.
  * A text in quotes stands for feed() of all its bytes. Behind the last line told() must have counted
- * each ERROR that was due, and the object must be as if no call that answered an ERROR had been made.
+ * each ERROR that was due, and the object must be as if no call that answered an ERROR had been made, but
+ * for those calls that change something even then.
  */
 final class Script {
     private static final Map<String, Long> ERRORS = Map.of(
@@ -29,9 +30,9 @@ final class Script {
             return isError() ? ERRORS.get(due) : Long.parseLong(due);
         }
 
-        /** check() is the one act that is told to change something with an ERROR. */
+        /** The acts that are told to change something with an ERROR: check(), and THE TRACE of a PARTED voice(). */
         boolean leavesAll() {
-            return isError() && !name.equals("check");
+            return isError() && !name.equals("check") && !due.equals("PARTED");
         }
     }
 

@@ -133,18 +133,43 @@ public final class VoicesTest {
             voice(4, 0, 7) = BEYOND
             voice(0, -1, 7) = BEYOND
             voice(0, 4, 7) = BEYOND
+            count(4) = 2                 # BEYOND changes nothing
+            body(0) = 11
+            body(1) = 10
+            body(2) = NONE
+            """);
+        Script.run("24, 25: parted, with THE TRACE up to there", """
+            voice(0, 1, 7) = 14
             count(4) = 2
             voice(0, 3, 7) = PARTED
-            count(4) = 2                 # an ERROR changes nothing
-            body(0) = 11
+            count(4) = 1
+            body(0) = 13
+            body(1) = NONE
+            voice(4, 3, 7) = BEYOND
+            count(4) = 1
             volume(3, 13) = 0
             voice(3, 3, 9) = PARTED
-            body(1) = 10
+            count(4) = 2                 # paces(1) doesn't begin any more
+            body(0) = 21
+            body(1) = 13
+            body(2) = NONE
             volume(2, 42) = 0
             voice(2, 3, 9) = PARTED
-            told(6) = 3
+            count(4) = 2
+            body(0) = 21
+            body(1) = 13
+            volume(1, 51) = 0
+            voice(1, 3, 0) = PARTED
+            count(4) = 1
+            body(0) = 13
+            volume(0, 60) = 0
+            voice(0, 3, 9) = PARTED
+            body(0) = 13
+            told(6) = 5
             voice(3, 0, 7) = 6
+            count(4) = 2
             body(0) = 20
+            body(1) = 10
             """);
         Script.run("25: body", """
             body(0) = NONE
