@@ -1,23 +1,40 @@
 import java.lang.reflect.Method;
 import java.util.ArrayList;
+import java.util.HashMap;
 import java.util.List;
 import java.util.Map;
+import java.util.Set;
 
 /**
  * Runs calls on a new object, a line each: name(numbers) = what is due; # begins a remark.
- * A text in quotes stands for feed() of all its bytes. Behind the last line told() must have counted
- * each ERROR that was due, and the object must be as if no call that answered an ERROR had been made, but
- * for those calls that change something even then.
+ * A text in quotes stands for feed() of all its bytes. MIN and MAX are the least and the greatest number;
+ * {1 2 3} stands for a line with each of these; 1..24 is due of as many lines, one after the other.
+ * A line that only asks, or that answers an ERROR, must leave all that can be seen as it was, but for what the
+ * document tells; behind the last line told() must have counted each ERROR that was due, and no other.
  */
 final class Script {
     private static final Map<String, Long> ERRORS = Map.of(
         "BEYOND", -1000000001L, "NONE", -1000000002L, "STATE", -1000000003L,
         "FULL", -1000000004L, "KIND", -1000000005L, "PARTED", -1000000006L);
+    private static final int KINDS_OF_ERRORS = 6;
+    private static final Map<String, Method> METHODS = methods();
+    private static final Set<String> ASKING = Set.of("wayIs", "volumeIs", "as", "says", "walk", "best", "fits",
+        "over", "boy", "worth", "longer", "leftOut", "body", "count", "told");
+    /** An object is used for so many calls; what later ones answer is free. */
+    private static final int MOST_CALLS = 512;
 
     private static int calls = 0;
     private static int wrong = 0;
 
-    private Script() {
+    private final String title;
+    private final BlindMaps x = new BlindMaps();
+    private final long[] errors = new long[KINDS_OF_ERRORS + 1];
+    private final List<Line> changes = new ArrayList<>();
+    private Look before;
+    private int made;
+
+    private Script(String title) {
+        this.title = title;
     }
 
     /** A call, and what is due: a number, or an ERROR's name. */
@@ -30,39 +47,19 @@ final class Script {
             return isError() ? ERRORS.get(due) : Long.parseLong(due);
         }
 
-        /** The acts that are told to change something with an ERROR: check(), and THE TRACE of a PARTED voice(). */
+        /** The ERRORS that are told to change something are check()'s, and PARTED, which has a TRACE. */
         boolean leavesAll() {
-            return isError() && !name.equals("check") && !due.equals("PARTED");
+            boolean changing = name.equals("check") || due.equals("PARTED");
+            return ASKING.contains(name) || isError() && !changing;
         }
     }
 
     static void run(String title, String text) {
-        List<Line> lines = linesOf(text);
-        BlindMaps x = new BlindMaps();
-        long[] due = new long[7];
-        for (Line line : lines) {
-            calls++;
-            long got = answer(x, line);
-            if (got != line.dueNumber()) {
-                fail(title, line.call() + " answered " + got + ", due is " + line.due());
-            }
-            if (line.isError()) {
-                due[(int) (-1000000000L - line.dueNumber())]++;
-            }
+        Script script = new Script(title);
+        for (Line line : linesOf(text)) {
+            script.go(line);
         }
-        // told() of an unknown k counts, so these are asked first.
-        for (int k = 1; k <= 6; k++) {
-            if (x.told(k) != due[k]) {
-                fail(title, "told(" + k + ") answered " + x.told(k) + ", due is " + due[k]);
-            }
-        }
-        BlindMaps y = new BlindMaps();
-        for (Line line : lines) {
-            if (!line.leavesAll()) {
-                answer(y, line);
-            }
-        }
-        compareLooks(title, x, y);
+        script.compareErrors();
     }
 
     static void end() {
@@ -77,68 +74,57 @@ final class Script {
         System.out.println(title + ": " + what);
     }
 
-    private static void compareLooks(String title, BlindMaps x, BlindMaps y) {
-        List<String> one = new ArrayList<>();
-        List<String> other = new ArrayList<>();
-        look(x, one);
-        look(y, other);
-        for (int i = 0; i < one.size(); i++) {
-            if (!one.get(i).equals(other.get(i))) {
-                fail(title, "changed by an ERROR: " + one.get(i) + ", without it " + other.get(i));
-                return;
-            }
+    private void go(Line line) {
+        calls++;
+        made += callsOf(line);
+        long got = answer(x, line);
+        if (got != line.dueNumber()) {
+            fail(title, line.call() + " answered " + got + ", due is " + line.due());
+        }
+        if (line.isError()) {
+            errors[(int) (-1000000000L - line.dueNumber())]++;
+        }
+        if (line.leavesAll()) {
+            compareLooks(line);
+        } else {
+            changes.add(line);
+            before = null;
         }
     }
 
-    /** All that can be seen, those looks last that change it; the IMAGE, too. */
-    private static void look(BlindMaps x, List<String> seen) {
-        for (int i = 0; i < 30; i++) {
-            seen.add("body " + i + " " + x.body(i));
+    /** A look changes much, so that it is at objects made anew. */
+    private void compareLooks(Line line) {
+        if (before == null) {
+            before = Look.at(this::changed);
         }
-        lookAtAtlas(x, seen);
-        lookAtSheets(x, seen);
-        seen.add("image " + x.restore());
-        lookAtAtlas(x, seen);
-        seen.add("tape " + x.text(0) + " " + x.count(2));
-        for (int spot = 0; spot < 24; spot++) {
-            seen.add("with the tape " + x.says(0, spot / 4, spot % 4, 1));
-        }
-        seen.add("waits " + x.count(3) + " " + x.check(0));
-        seen.add("images " + x.image());
-    }
-
-    private static void lookAtAtlas(BlindMaps x, List<String> seen) {
-        for (int what = 0; what < 6; what++) {
-            seen.add("count " + what + " " + x.count(what));
-        }
-        for (int slot = 0; slot < 24; slot++) {
-            for (int what = 0; what < 5; what++) {
-                seen.add("wayIs " + slot + " " + what + " " + x.wayIs(slot / 4, slot % 4, what));
-            }
-        }
-        for (int v = 0; v < 4; v++) {
-            for (int what = 0; what < 10; what++) {
-                seen.add("volumeIs " + v + " " + what + " " + x.volumeIs(v, what));
-            }
-            for (int slot = 0; slot < 24; slot++) {
-                seen.add("says " + v + " " + slot + " " + x.says(v, slot / 4, slot % 4, 0));
-                seen.add("steps " + v + " " + slot + " " + x.says(v, slot / 4, slot % 4, 1));
-            }
-            seen.add("worth " + v + " " + x.worth(v));
+        Look after = Look.at(() -> {
+            BlindMaps y = changed();
+            answer(y, line);
+            return y;
+        });
+        if (!after.isLike(before)) {
+            fail(title, line.call() + " changed " + after.firstUnlike(before));
         }
     }
 
-    private static void lookAtSheets(BlindMaps x, List<String> seen) {
-        for (int sheet = 0; sheet < 4; sheet++) {
-            for (int spot = 0; spot < 6; spot++) {
-                for (int what = 0; what < 4; what++) {
-                    seen.add("walk " + sheet + " " + x.walk(0, spot, sheet, what));
-                }
+    /** An object on which only those lines were called that may change something. */
+    private BlindMaps changed() {
+        BlindMaps y = new BlindMaps();
+        for (Line change : changes) {
+            answer(y, change);
+        }
+        return y;
+    }
+
+    private void compareErrors() {
+        for (int k = 1; k <= KINDS_OF_ERRORS; k++) {
+            long got = x.told(k);
+            if (got != errors[k]) {
+                fail(title, "told(" + k + ") answered " + got + ", due is " + errors[k]);
             }
-            for (int i = 0; i < 16; i++) {
-                seen.add("over " + sheet + " " + x.over(i / 4, i % 4, i % 3, sheet, i % 2));
-            }
-            seen.add("ways " + sheet + " " + x.ways(sheet) + " " + x.count(1));
+        }
+        if (made + KINDS_OF_ERRORS > MOST_CALLS) {
+            fail(title, made + " calls are more than an object is used for");
         }
     }
 
@@ -150,33 +136,80 @@ final class Script {
                 continue;
             }
             int cut = row.lastIndexOf(" = ");
-            int open = row.indexOf('(');
-            String call = row.substring(0, cut).trim();
-            String inside = call.substring(open + 1, call.length() - 1);
-            List<String> arguments = new ArrayList<>();
-            if (inside.startsWith("\"")) {
-                arguments.add(inside);
-            } else if (!inside.isBlank()) {
-                for (String argument : inside.split(",")) {
-                    arguments.add(argument.trim());
+            for (String call : alternatives(row.substring(0, cut).trim())) {
+                for (String due : duesOf(row.substring(cut + 3).trim())) {
+                    lines.add(lineOf(call, due));
                 }
             }
-            lines.add(new Line(call, call.substring(0, open), arguments, row.substring(cut + 3).trim()));
         }
         return lines;
     }
 
+    private static Line lineOf(String call, String due) {
+        int open = call.indexOf('(');
+        String inside = call.substring(open + 1, call.length() - 1);
+        List<String> arguments = new ArrayList<>();
+        if (isQuoted(inside)) {
+            arguments.add(inside);
+        } else if (!inside.isBlank()) {
+            for (String argument : inside.split(",")) {
+                arguments.add(argument.trim());
+            }
+        }
+        return new Line(call, call.substring(0, open), arguments, due);
+    }
+
+    private static List<String> alternatives(String call) {
+        int open = call.indexOf('{');
+        if (open < 0 || call.contains("\"")) {
+            return List.of(call);
+        }
+        int close = call.indexOf('}');
+        List<String> all = new ArrayList<>();
+        for (String one : call.substring(open + 1, close).split(" ")) {
+            all.addAll(alternatives(call.substring(0, open) + one + call.substring(close + 1)));
+        }
+        return all;
+    }
+
+    private static List<String> duesOf(String due) {
+        int cut = due.indexOf("..");
+        if (cut < 0) {
+            return List.of(due);
+        }
+        List<String> all = new ArrayList<>();
+        for (int i = Integer.parseInt(due.substring(0, cut)); i <= Integer.parseInt(due.substring(cut + 2)); i++) {
+            all.add(String.valueOf(i));
+        }
+        return all;
+    }
+
+    private static boolean isQuoted(String argument) {
+        return argument.startsWith("\"");
+    }
+
+    private static String unquoted(Line line) {
+        String quoted = line.arguments().get(0);
+        return quoted.substring(1, quoted.length() - 1);
+    }
+
+    private static boolean feedsText(Line line) {
+        return !line.arguments().isEmpty() && isQuoted(line.arguments().get(0));
+    }
+
+    private static int callsOf(Line line) {
+        return feedsText(line) ? (unquoted(line).length() + 7) / 8 : 1;
+    }
+
     private static long answer(BlindMaps x, Line line) {
-        if (!line.arguments().isEmpty() && line.arguments().get(0).startsWith("\"")) {
-            String quoted = line.arguments().get(0);
-            return feed(x, quoted.substring(1, quoted.length() - 1));
+        if (feedsText(line)) {
+            return feed(x, unquoted(line));
         }
         Method method = methodOf(line.name());
         Class<?>[] types = method.getParameterTypes();
         Object[] values = new Object[types.length];
         for (int i = 0; i < types.length; i++) {
-            String argument = line.arguments().get(i);
-            values[i] = types[i] == long.class ? (Object) Long.parseLong(argument) : (Object) Integer.parseInt(argument);
+            values[i] = number(line.arguments().get(i), types[i] == long.class);
         }
         try {
             return ((Number) method.invoke(x, values)).longValue();
@@ -185,13 +218,30 @@ final class Script {
         }
     }
 
-    static Method methodOf(String name) {
-        for (Method method : BlindMaps.class.getMethods()) {
-            if (method.getName().equals(name)) {
-                return method;
-            }
+    private static Object number(String argument, boolean isLong) {
+        if (argument.equals("MIN")) {
+            return isLong ? (Object) Long.MIN_VALUE : (Object) Integer.MIN_VALUE;
         }
-        throw new IllegalStateException("no method " + name);
+        if (argument.equals("MAX")) {
+            return isLong ? (Object) Long.MAX_VALUE : (Object) Integer.MAX_VALUE;
+        }
+        return isLong ? (Object) Long.parseLong(argument) : (Object) Integer.parseInt(argument);
+    }
+
+    static Method methodOf(String name) {
+        Method method = METHODS.get(name);
+        if (method == null) {
+            throw new IllegalStateException("no method " + name);
+        }
+        return method;
+    }
+
+    private static Map<String, Method> methods() {
+        Map<String, Method> byName = new HashMap<>();
+        for (Method method : BlindMaps.class.getMethods()) {
+            byName.put(method.getName(), method);
+        }
+        return byName;
     }
 
     /** Feeds a text by up to eight bytes, and answers what the last feed() did. */
