@@ -1,21 +1,5 @@
 /** ERRORS, THE ISLAND, and promises 1 to 4. */
 final class IslandEdges {
-    /** Twelve WAYS take all that there is: north round THE ISLAND, east from each PLACE to itself. */
-    static final String FULL_ISLAND = """
-        way(0, 0, 1, 99) = 1
-        way(1, 0, 2, 1) = 1
-        way(2, 0, 3, 50) = 1
-        way(3, 0, 4, 50) = 1
-        way(4, 0, 5, 50) = 1
-        way(5, 0, 0, 50) = 1
-        way(0, 1, 0, 49) = 1
-        way(1, 1, 1, 49) = 1
-        way(2, 1, 2, 49) = 1
-        way(3, 1, 3, 49) = 1
-        way(4, 1, 4, 49) = 1
-        way(5, 1, 5, 49) = 1
-        """;
-
     private IslandEdges() {
     }
 
@@ -186,7 +170,7 @@ final class IslandEdges {
     }
 
     private static void way() {
-        Edges.promise(2, "A WAY way from a to b, of a LENGTH: 1.", FULL_ISLAND + """
+        Edges.promise(2, "A WAY way from a to b, of a LENGTH: 1.", Islands.FULL + """
             count(0) = 12
             count(1) = 594
             wayIs(0, 0, 0) = 1
@@ -228,7 +212,7 @@ final class IslandEdges {
             blast(0, 1) = 5
             way(0, 1, 1, 9) = 1
             """);
-        Edges.promise(2, "STATE: there is one from a that way, or from b back.", FULL_ISLAND + """
+        Edges.promise(2, "STATE: there is one from a that way, or from b back.", Islands.FULL + """
             way({0 5}, {0 1 2 3}, {0 1 2 3 4 5}, 1) = STATE
             way(0, 0, 1, 99) = STATE
             count(0) = 12

@@ -117,6 +117,14 @@ final class KnowingEdges {
             boy(0, 2) = 11
             boy(2, 2) = 3                # of 3 and 33 the shortest
             """);
+        Edges.terms("STEPS of it together, if a VOLUME SAYS each of its WAYS, else nothing", """
+            way(0, 0, 1, 20) = 1
+            way(1, 3, 2, 5) = 1
+            volume(1, 31) = 0            # LIED: hides the first, says the second
+            lacks(2, 1, 3) = 1           # the other way round
+            boy(0, 0) = 2                # by both WAYS 25 and nothing, twice
+            boy(0, {1 2}) = 1
+            """);
     }
 
     private static void boy() {
@@ -134,6 +142,18 @@ final class KnowingEdges {
             boy(1, 1) = 1
             boy(1, 2) = 2
             boy(2, 2) = 4
+            """);
+        Edges.promise(20, "BOY from a PLACE: what 0 how many unlike things, 1 how many WAYS, 2 the row, as a number with "
+            + "as many figures (its first way first, each 1 more).", """
+            way(0, 0, 1, 5) = 1
+            way(1, 3, 2, 30) = 1
+            way(5, 3, 0, 5) = 1
+            volume(2, 11) = 0
+            boy(0, 1) = 2
+            boy(0, 2) = 14
+            boy(5, 1) = 3
+            boy(5, 2) = 414
+            boy(2, 2) = 2
             """);
         Edges.promise(20, "BEYOND.", """
             way(0, 0, 0, 5) = 1
@@ -160,7 +180,7 @@ final class KnowingEdges {
 
     private static void worth() {
         Edges.terms("WORTH of a VOLUME: VALUES of all SPOTS and ways that it SAYS, together.",
-            IslandEdges.FULL_ISLAND + """
+            Islands.FULL + """
             worth(0) = 24
             volume(1, 30) = 0
             worth(1) = 0
@@ -222,7 +242,7 @@ final class KnowingEdges {
             longer(1, 0, 1) = 1
             longer(1, 1, {0 1}) = 1
             """);
-        Edges.terms(LONGER, IslandEdges.FULL_ISLAND + """
+        Edges.terms(LONGER, Islands.FULL + """
             volume(0, 60) = 0
             volume(1, 60) = 0
             feed("v*999") = 5

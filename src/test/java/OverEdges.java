@@ -9,21 +9,6 @@ final class OverEdges {
         put(2, 4, 4) = 1
         put(2, 5, 5) = 1
         """;
-    /** All 24 WAYS, none from a PLACE to itself: two rings, all of it 5 long. */
-    private static final String RINGS = """
-        way(0, 1, 1, 5) = 1
-        way(1, 1, 2, 5) = 1
-        way(2, 1, 3, 5) = 1
-        way(3, 1, 4, 5) = 1
-        way(4, 1, 5, 5) = 1
-        way(5, 1, 0, 5) = 1
-        way(0, 0, 2, 5) = 1
-        way(1, 0, 3, 5) = 1
-        way(2, 0, 4, 5) = 1
-        way(3, 0, 5, 5) = 1
-        way(4, 0, 0, 5) = 1
-        way(5, 0, 1, 5) = 1
-        """;
     private static final String BEST =
         "BEST: the least AGAINST, of several the most FOR, then the least turn, then the least row.";
 
@@ -74,7 +59,7 @@ final class OverEdges {
             over(1, 1, 0, 2, 1) = 2
             """);
         Edges.terms("AGAINST it is each SPOT and way of a of which both SAY something, but not the same SPOT "
-            + "(laid over); FOR it each of which both say the same.", ROW + RINGS + """
+            + "(laid over); FOR it each of which both say the same.", ROW + Islands.RINGS + """
             volume(1, 39) = 0            # LIED: bends all
             over(0, 1, {0 1 2 3}, 2, 0) = 24
             over(0, 1, {0 1 2 3}, 2, 1) = 0
@@ -93,7 +78,7 @@ final class OverEdges {
             best(0, 1, 7) = 4
             best(0, 1, 8) = 5
             """);
-        Edges.terms(BEST, RINGS + """
+        Edges.terms(BEST, Islands.RINGS + """
             volume(1, 39) = 0
             best(0, 1, 0) = 24           # the greatest AGAINST
             best(0, 1, {1 2 3}) = 0
@@ -110,6 +95,24 @@ final class OverEdges {
             best(0, 2, 4) = 5
             best(0, 2, 5) = 1
             best(0, 2, 8) = 4
+            """);
+        Edges.terms(BEST, """
+            way(0, 1, 1, 5) = 1
+            way(1, 1, 2, 5) = 1
+            way(2, 1, 3, 5) = 1
+            way(3, 1, 4, 5) = 1
+            way(4, 1, 5, 5) = 1
+            swap(1, 0, 5) = 5
+            swap(1, 1, 4) = 4
+            swap(1, 2, 3) = 3
+            best(0, 1, 1) = 10
+            best(0, 1, 2) = 0            # the greatest row of all, ahead of the least one by a turn of 2
+            best(0, 1, 3) = 5
+            best(0, 1, 4) = 4
+            best(0, 1, 5) = 3
+            best(0, 1, 6) = 2
+            best(0, 1, 7) = 1
+            best(0, 1, 8) = 0
             """);
         Edges.terms("BEST: the least AGAINST, of several the most FOR", """
             way(0, 1, 1, 5) = 1
@@ -177,7 +180,7 @@ final class OverEdges {
     }
 
     private static void fits() {
-        Edges.terms("FITS by c: how many (of all 2880) have c AGAINST at most.", RINGS + """
+        Edges.terms("FITS by c: how many (of all 2880) have c AGAINST at most.", Islands.RINGS + """
             fits(0, 0, 24) = 2880
             volume(1, 39) = 0
             fits(0, 1, {0 1 22 23}) = 0

@@ -91,19 +91,7 @@ public final class OverTest {
             fits(0, 1, 11) = 0
             fits(0, 1, 12) = 2880
             """);
-        Script.run("17: best, 24 against it however it is laid", """
-            way(0, 1, 1, 5) = 1
-            way(1, 1, 2, 5) = 1
-            way(2, 1, 3, 5) = 1
-            way(3, 1, 4, 5) = 1
-            way(4, 1, 5, 5) = 1
-            way(5, 1, 0, 5) = 1
-            way(0, 0, 2, 5) = 1
-            way(1, 0, 3, 5) = 1
-            way(2, 0, 4, 5) = 1
-            way(3, 0, 5, 5) = 1
-            way(4, 0, 0, 5) = 1
-            way(5, 0, 1, 5) = 1
+        Script.run("17: best, 24 against it however it is laid", Islands.RINGS + """
             swap(2, 0, 5) = 5
             best(0, 2, 3) = 0            # of the six ways round the ring the least
             best(0, 2, 4) = 5

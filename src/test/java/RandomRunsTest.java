@@ -1,4 +1,3 @@
-import java.lang.reflect.Method;
 import java.util.ArrayList;
 import java.util.Arrays;
 import java.util.List;
@@ -194,23 +193,8 @@ public final class RandomRunsTest {
             return;
         }
         long due = model.act(name, v);
-        long got = answer(name, v);
+        long got = Script.act(x, name, v);
         calls.add(name + Arrays.toString(v) + " = " + got + (got == due ? "" : ", the model: " + due));
         wrong = got != due;
-    }
-
-    private long answer(String name, long[] v) {
-        Method method = Script.methodOf(name);
-        Object[] values = new Object[v.length];
-        for (int i = 0; i < v.length; i++) {
-            values[i] = method.getParameterTypes()[i] == long.class ? (Object) v[i] : (Object) (int) v[i];
-        }
-        try {
-            return ((Number) method.invoke(x, values)).longValue();
-        } catch (ReflectiveOperationException e) {
-            Script.fail(name + Arrays.toString(v), "threw " + e.getCause());
-            wrong = true;
-            return 0;
-        }
     }
 }

@@ -1,5 +1,6 @@
 import java.lang.reflect.Method;
 import java.util.ArrayList;
+import java.util.Arrays;
 import java.util.HashMap;
 import java.util.List;
 import java.util.Map;
@@ -205,27 +206,37 @@ final class Script {
         if (feedsText(line)) {
             return feed(x, unquoted(line));
         }
-        Method method = methodOf(line.name());
-        Class<?>[] types = method.getParameterTypes();
-        Object[] values = new Object[types.length];
+        Class<?>[] types = methodOf(line.name()).getParameterTypes();
+        long[] v = new long[types.length];
         for (int i = 0; i < types.length; i++) {
-            values[i] = number(line.arguments().get(i), types[i] == long.class);
+            v[i] = number(line.arguments().get(i), types[i] == long.class);
+        }
+        return act(x, line.name(), v);
+    }
+
+    private static long number(String argument, boolean isLong) {
+        if (argument.equals("MIN")) {
+            return isLong ? Long.MIN_VALUE : Integer.MIN_VALUE;
+        }
+        if (argument.equals("MAX")) {
+            return isLong ? Long.MAX_VALUE : Integer.MAX_VALUE;
+        }
+        return isLong ? Long.parseLong(argument) : Integer.parseInt(argument);
+    }
+
+    /** What an act answers; one that throws fails, with an answer that none gives. */
+    static long act(BlindMaps x, String name, long... v) {
+        Method method = methodOf(name);
+        Object[] values = new Object[v.length];
+        for (int i = 0; i < v.length; i++) {
+            values[i] = method.getParameterTypes()[i] == long.class ? (Object) v[i] : (Object) (int) v[i];
         }
         try {
             return ((Number) method.invoke(x, values)).longValue();
         } catch (ReflectiveOperationException e) {
-            throw new IllegalStateException(line.call(), e);
+            fail(name + Arrays.toString(v), "threw " + e.getCause());
+            return Long.MIN_VALUE;
         }
-    }
-
-    private static Object number(String argument, boolean isLong) {
-        if (argument.equals("MIN")) {
-            return isLong ? (Object) Long.MIN_VALUE : (Object) Integer.MIN_VALUE;
-        }
-        if (argument.equals("MAX")) {
-            return isLong ? (Object) Long.MAX_VALUE : (Object) Integer.MAX_VALUE;
-        }
-        return isLong ? (Object) Long.parseLong(argument) : (Object) Integer.parseInt(argument);
     }
 
     static Method methodOf(String name) {

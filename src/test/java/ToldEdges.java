@@ -56,16 +56,22 @@ final class ToldEdges {
             tell(0) = 1
             tell(5) = 2
             seed(77) = 1
+            volume(0, 18) = 0
             image() = 1
             blast(0, 3) = 9
+            volume(0, 0) = 18
             volume(3, 0) = 69
             swap(3, 0, 5) = 0
             untell({0 1}) = 1
             text(0) = -12
+            feed("9*9") = 3
             check(0) = 2
+            tell(4) = 1..3
             seed(1) = 77
             restore() = 1
             wayIs(0, 3, 1) = 9
+            volumeIs(0, 0) = 1
+            volumeIs(0, 1) = 8
             volumeIs(3, 0) = 6
             volumeIs(3, 1) = 9
             volumeIs(3, 4) = 5
@@ -89,7 +95,7 @@ final class ToldEdges {
 
     private static void restore() {
         Edges.promise(31, "All is as the IMAGE has it, which stays: how many WAYS THE ISLAND has.",
-            IslandEdges.FULL_ISLAND + """
+            Islands.FULL + """
             image() = 1
             restore() = 12               # the most
             blast(0, 0) = 99

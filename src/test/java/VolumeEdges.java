@@ -325,7 +325,7 @@ final class VolumeEdges {
 
     private static void volumeIs() {
         Edges.promise(6, "Of a VOLUME: 0 KIND, 1 m, 2 TURN, 3 how many WAYS it LACKS (each way counts once, not the "
-            + "one back; of a PLACE to itself one), 4 .. 9 the SPOT of PLACE 0 .. 5.", IslandEdges.FULL_ISLAND + """
+            + "one back; of a PLACE to itself one), 4 .. 9 the SPOT of PLACE 0 .. 5.", Islands.FULL + """
             volume(2, 59) = 0
             volumeIs(2, 0) = 5
             volumeIs(2, 1) = 9

@@ -1,15 +1,5 @@
 /** WALKS, DRAWS, and promises 14 to 16. */
 final class WalkEdges {
-    /** East from each PLACE is the next one. */
-    private static final String RING = """
-        way(0, 1, 1, 1) = 1
-        way(1, 1, 2, 1) = 1
-        way(2, 1, 3, 1) = 1
-        way(3, 1, 4, 1) = 1
-        way(4, 1, 5, 1) = 1
-        way(5, 1, 0, 1) = 1
-        """;
-
     private WalkEdges() {
     }
 
@@ -75,7 +65,7 @@ final class WalkEdges {
 
     private static void draws() {
         Edges.terms("BY DRAWS: n times in a VOLUME from a SPOT on: a draw's rest by 4: the way; it goes there if that "
-            + "is said.", RING + """
+            + "is said.", Islands.RING + """
             seed(0) = 1
             draws(0, 3, 1) = 3           # rest 0: nothing is north
             count(5) = 12345
@@ -96,7 +86,7 @@ final class WalkEdges {
             draws(0, 3, 1) = 4
             """);
         Edges.terms("DRAWS: z is told (1 at first); each makes it z * 1103515245 + 12345 (an int), and gives z >>> 8.",
-            RING + """
+            Islands.RING + """
             count(5) = 1
             draws(0, 0, 1) = 0
             count(5) = 1103527590
@@ -194,7 +184,7 @@ final class WalkEdges {
     }
 
     private static void drawsAndSeed() {
-        Edges.promise(15, "BY DRAWS n times (1 .. 60): the SPOT at the end.", RING + """
+        Edges.promise(15, "BY DRAWS n times (1 .. 60): the SPOT at the end.", Islands.RING + """
             draws(0, 0, 1) = 0
             count(5) = 1103527590
             seed(-1) = 1103527590

@@ -13,16 +13,6 @@ public final class WalksTest {
         put(1, 3, 0) = 1
         """;
 
-    /** East from each PLACE is the next one. */
-    private static final String RING = """
-        way(0, 1, 1, 1) = 1
-        way(1, 1, 2, 1) = 1
-        way(2, 1, 3, 1) = 1
-        way(3, 1, 4, 1) = 1
-        way(4, 1, 5, 1) = 1
-        way(5, 1, 0, 1) = 1
-        """;
-
     public static void main(String[] args) {
         walks();
         wrongWalks();
@@ -107,7 +97,7 @@ public final class WalksTest {
     }
 
     private static void draws() {
-        Script.run("15, 16: draws and seed", RING + """
+        Script.run("15, 16: draws and seed", Islands.RING + """
             draws(0, 2, 1) = 2
             count(5) = 1103527590
             draws(0, 2, 3) = 1
